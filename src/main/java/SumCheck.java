@@ -177,7 +177,7 @@ public final class SumCheck {
     }
 
     private boolean isVariableSet(int set) {
-        // The unsigned shift keeps bit 31 in sight: a negative set is no set of variables.
+        // By shift, not by size: a negative set has bit 31 and must be refused too.
         return set >>> variables == 0;
     }
 
